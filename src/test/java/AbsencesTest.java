@@ -8,6 +8,7 @@ public final class AbsencesTest {
         courtDays();
         courtByReasons();
         courtIsFirst();
+        courtOfThirty();
         Due.end();
     }
 
@@ -129,5 +130,24 @@ public final class AbsencesTest {
         Due.is("24: first day, not first told", x.court(0, 364), 10);
         Due.is("24: day 0 counts", x.absent(0, 0), 4);
         Due.is("24: first of three", x.court(0, 364), 5);
+        x.undo();
+        Due.is("24: day 0 is undone", x.court(0, 364), 10);
+        x.undo();
+        Due.is("24: day 5 is undone", x.court(0, 364), 300);
+    }
+
+    private static void courtOfThirty() {
+        HoursDesk x = withTwo();
+        x.person(2, 3, 127, 0, 10);
+        for (int i = 0; i < 30; i++) {
+            Due.is("24: thirty of three", x.absent(i / 10, 364 - 29 * (i % 10)), i);
+        }
+        for (int p = 0; p < 3; p++) {
+            Due.is("24: all 29 days apart", x.court(p, 364), Due.NONE);
+        }
+        x.undo();
+        x.absent(2, 104);
+        Due.is("24: the thirtieth is 28 days ahead", x.court(2, 364), 132);
+        Due.is("24: not of another", x.court(1, 364), Due.NONE);
     }
 }

@@ -7,6 +7,8 @@ public final class EndsTest {
         foretold();
         foretoldFar();
         late();
+        struckIsForgotten();
+        eightPeople();
         wrongAsked();
         Due.end();
     }
@@ -107,6 +109,41 @@ public final class EndsTest {
         Due.is("27: done long ago", x.late(364), 1);
         Due.is("27: not done a day before", x.late(11), 2);
         Due.is("27: nobody there", new HoursDesk().late(0), 0);
+    }
+
+    private static void struckIsForgotten() {
+        HoursDesk x = withTwo();
+        x.entry(0, 5, 10, 0, 5);
+        x.entry(0, 1, 10, 0, 1);
+        paceIs("25: from the first", x, 0, 6, 10, 3);
+        x.strike();
+        paceIs("25: the first was struck", x, 0, 6, 5, 1);
+        x.undo();
+        paceIs("25: the first came back", x, 0, 6, 10, 3);
+        x.undo();
+        x.undo();
+        x.undo();
+        paceIs("25: no entry any more", x, 0, 6, Due.NONE, Due.NONE);
+        for (int i = 0; i < 60; i++) {
+            x.entry(0, 300 - i, 1, 0, 300);
+        }
+        paceIs("25: sixty entries", x, 0, 300, 1, 1);
+    }
+
+    private static void eightPeople() {
+        HoursDesk x = new HoursDesk();
+        for (int i = 0; i < 8; i++) {
+            x.person(0, 1, 0, 0, 100 + i);
+        }
+        Due.is("27: all eight", x.late(0), 8);
+        x.undo();
+        Due.is("27: seven", x.late(0), 7);
+        for (int i = 0; i < 7; i++) {
+            x.entry(i, 0, 30, 0, 0);
+        }
+        Due.is("27: foretold in time", x.late(0), 0);
+        Due.is("27: foretold 103", x.foretold(0, 51), 103);
+        Due.is("27: three are behind", x.late(51), 3);
     }
 
     private static void wrongAsked() {

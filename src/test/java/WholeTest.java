@@ -190,6 +190,12 @@ public final class WholeTest {
             }
         }
         Due.is("33: ten bars", x.told(4), 10);
+        for (int i = 5; i < 8; i++) {
+            x.person(0, 9, 127, 0, 5);
+            x.bar(i, i - 1, true);
+        }
+        Due.is("33: eight people", x.told(0), 8);
+        Due.is("33: thirteen bars", x.told(4), 13);
     }
 
     /** Each act answers a finding once; each of them counts, also where nothing could change. */
