@@ -25,6 +25,10 @@ final class Due {
         is(what, holds ? 1 : 0, 1);
     }
 
+    static int asked() {
+        return asked;
+    }
+
     static void end() {
         System.out.println(asked + " answers asked, " + wrong + " wrong");
         if (wrong != 0 || asked == 0) {
