@@ -930,6 +930,8 @@ public final class HoursDesk {
      * Finds THE PLAN place by place. A plan's worth is one number: how many people are at PLACES, above
      * two bits for each person (3 at PLACE 0, 2 at PLACE 1, 1 at PLACE 2, 0 at none), person 0's highest.
      * So the greatest worth is THE PLAN's: the most people, then the first as told person by person.
+     *
+     * Loops over the subsets of a set go downwards: (subset - 1) & set is less than subset, so they end at 0.
      */
     private static final class Planner {
         private static final int STALE = -1;

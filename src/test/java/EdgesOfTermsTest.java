@@ -2,6 +2,7 @@
 public final class EdgesOfTermsTest {
     public static void main(String[] args) throws Exception {
         Doc.chapter("Terms");
+        // No call answers these; LanguageTest looks for them in the source.
         Doc.leavesOut("Ahead of the calls ");
         findings();
         order();

@@ -48,6 +48,7 @@ public final class LanguageTest {
 
     public static void main(String[] args) throws Exception {
         face();
+        headings();
         nestedClasses();
         source();
         Due.end();
@@ -89,6 +90,24 @@ public final class LanguageTest {
         Due.that("rule 1: public constructor", Modifier.isPublic(made[0].getModifiers()) && made[0].getParameterCount() == 0);
         Due.that("rule 1: final", Modifier.isFinal(HoursDesk.class.getModifiers()));
         Due.that("no package", HoursDesk.class.getPackageName().isEmpty());
+    }
+
+    /** "Ahead of the calls .. the interface says": so do the source's lines, with the same calls in the same order. */
+    private static void headings() throws Exception {
+        List<String> due = new ArrayList<>();
+        Matcher sentence = Pattern.compile("(?m)^Ahead of the calls (.*) the interface says: (---- .*)\\.$")
+                .matcher(Files.readString(DOCUMENT));
+        while (sentence.find()) {
+            due.add(sentence.group(2));
+            due.addAll(List.of(sentence.group(1).replace("`", "").split(", ")));
+        }
+        Due.is("the document's headings and calls", due.size(), 6 + 32);
+        List<String> there = new ArrayList<>();
+        Matcher line = Pattern.compile("(?m)^    // (---- .*)$|^    public int (\\w+)\\(").matcher(Files.readString(SOURCE));
+        while (line.find() && there.size() < due.size()) {
+            there.add(line.group(1) != null ? line.group(1) : line.group(2));
+        }
+        Due.that("headings and calls are " + there + ", due are " + due, there.equals(due));
     }
 
     private static void nestedClasses() {
